@@ -9,7 +9,9 @@ import java.util.TreeSet;
  */
 public final class SmallRuns {
     private static final int RUNS = 1500;
-    private static final int CALLS = 120;
+    private static final int CALLS = 500;
+    private static final int TELLING = 10;
+    private static final int ROUND = 50;
     private static final int MOST_SHOWN = 20;
     private static int wrong = 0;
 
@@ -25,14 +27,14 @@ public final class SmallRuns {
 
     private static void oneRun(int seed) {
         Random random = new Random(seed);
-        int steps = random.nextInt(6);
-        int levels = steps > 4 ? random.nextInt(3) : random.nextInt(5);
+        int steps = random.nextInt(8);
+        int levels = steps > 5 ? random.nextInt(3) : random.nextInt(6);
         LevelTables x = new LevelTables(steps, levels);
         Model model = new Model(steps, levels);
         Caller caller = new Caller(random, model, seed % 3 == 0);
         StringBuilder told = new StringBuilder("new LevelTables(" + steps + ", " + levels + ")");
         for (int i = 0; i < CALLS; i++) {
-            caller.choose();
+            caller.choose(i % ROUND);
             long got = caller.callProgram(x);
             long want = caller.callModel(model);
             told.append("\n  ").append(caller.text()).append(" ").append(got);
@@ -70,39 +72,48 @@ public final class SmallRuns {
             return random.nextInt(most + 1);
         }
 
+        private int levelOrNone(int oneInSo) {
+            return random.nextInt(oneInSo) > 0 ? -1 : upTo(model.m);
+        }
+
         private int price() {
             return random.nextInt(8) == 0 ? upTo(1000000) : upTo(3);
         }
 
-        void choose() {
-            int n = model.n;
-            int m = model.m;
-            int roll = random.nextInt(100);
-            // Calls that forget the table are rare enough for the others to see one.
-            if (roll < 24) {
-                which = random.nextInt(6);
-            } else if (roll < 36) {
+        private int oneOf(int[] calls) {
+            return calls[random.nextInt(calls.length)];
+        }
+
+        void choose(int turn) {
+            // First the site is told, then a table found, then it is asked for; and so again.
+            if (turn < TELLING) {
+                which = oneOf(new int[] {0, 0, 0, 0, 1, 1, 2, 2, 2, 3, 4, 5, 11, 14});
+            } else if (turn == TELLING) {
                 which = 6;
             } else {
-                which = 7 + random.nextInt(13);
+                which = oneOf(new int[] {6, 7, 8, 9, 9, 10, 10, 11, 12, 12, 12, 13, 13, 14, 15, 15, 16, 17, 17, 18});
             }
+            chooseNumbers(model.n, model.m);
+        }
+
+        private void chooseNumbers(int n, int m) {
             switch (which) {
                 case 0: a = upTo(n); b = upTo(m); break;
                 case 1: a = upTo(n); b = price(); c = price(); break;
-                case 2: a = upTo(n); b = upTo(n); c = upTo(1); cents = spanCents(); break;
+                case 2: a = upTo(n); b = a + 2 + upTo(2); c = upTo(1); cents = spanCents(); break;
                 case 3: a = upTo(2); break;
-                case 4: a = upTo(n); b = random.nextInt(3) > 0 ? -1 : upTo(m); break;
-                case 5: a = 1 + upTo(3); b = upTo(4); c = random.nextInt(2) * upTo(2); break;
+                case 4: a = upTo(n); b = levelOrNone(3); break;
+                case 5: a = 1 + upTo(3); b = upTo(4); c = random.nextInt(3) > 0 ? 0 : upTo(2); break;
                 case 7: a = upTo(n); break;
                 case 9: a = upTo(5); break;
-                case 10: a = upTo(n); b = random.nextInt(3) == 0 ? -1 : upTo(m); break;
-                case 11: a = random.nextBoolean() ? upTo(1000) : random.nextInt(400); break;
-                case 12: a = upTo(n); b = random.nextInt(4) == 0 ? 0 : upTo(1000); break;
+                case 10: a = upTo(n); b = levelOrNone(2); break;
+                case 11: a = random.nextBoolean() ? upTo(1000) : random.nextInt(300); break;
+                case 12: a = upTo(n); b = random.nextInt(6) == 0 ? 0 : upTo(1000); break;
                 case 13: a = upTo(n); b = upTo(8); break;
                 case 14: a = upTo(100); b = upTo(100); c = upTo(60); d = upTo(60); break;
-                case 15: a = upTo(2); b = upTo(2); break;
+                case 15: a = random.nextInt(2) * upTo(2); b = upTo(2); break;
                 case 16: a = upTo(n); break;
-                case 17: case 18: which = 17; a = upTo(7); break;
+                case 17: a = upTo(7); break;
                 default: break;
             }
         }
@@ -117,7 +128,7 @@ public final class SmallRuns {
         String text() {
             String[] names = {"ground", "prices", "span", "drop", "fixed", "slopes", "run", "level",
                 "cost", "other", "move", "speed", "curve", "curveAt", "lorry", "lane", "order", "told",
-                "told", "keeps"};
+                "keeps"};
             return names[which] + "(" + a + ", " + b + ", " + c + ", " + d + "; cents " + cents + ")";
         }
 
