@@ -344,6 +344,15 @@ public final class LevelTables {
             return size >= falls && size <= most;
         }
 
+        /** The lowest level that a step of MOST may join with this one. */
+        int lowestNear(int level) {
+            return Math.max(0, level - most);
+        }
+
+        int highestNear(int level) {
+            return Math.min(top, level + most);
+        }
+
         boolean changeFits(int slope, int following) {
             return Math.abs(following - slope) <= change;
         }
@@ -590,7 +599,8 @@ public final class LevelTables {
             boolean any = false;
             for (int level = 0; level <= site.top; level++) {
                 long follow = here[level] == 0L ? 0L : widened(here[level]);
-                for (int next = 0; next <= site.top; next++) {
+                int highest = site.highestNear(level);
+                for (int next = site.lowestNear(level); next <= highest; next++) {
                     long bit = 1L << (next - level + LIMIT);
                     if ((follow & bit) != 0L && canStep(place, level, next)) {
                         there[next] |= bit;
@@ -693,26 +703,52 @@ public final class LevelTables {
                 if (!site.allows(place, level)) {
                     continue;
                 }
-                if (place < site.last) {
+                if (place == site.last) {
+                    fillLast(layer, level);
+                } else {
                     fillLeaving(place, level);
-                }
-                for (int before = 0; before < width; before++) {
-                    if (site.slopeFits(level - before)) {
-                        fillState(layer, place, level, before);
-                    }
+                    fillStates(layer, level);
                 }
             }
         }
 
-        private void fillState(long[] layer, int place, int level, int before) {
-            int at = indexOf(level, before);
-            if (place == site.last) {
-                layer[at] = earthValue(place, level);
-                return;
+        private void fillLast(long[] layer, int level) {
+            long value = earthValue(site.last, level);
+            int highest = site.highestNear(level);
+            for (int before = site.lowestNear(level); before <= highest; before++) {
+                if (site.slopeFits(level - before)) {
+                    layer[indexOf(level, before)] = value;
+                }
             }
-            int straight = level + level - before;
-            int lowest = Math.max(0, straight - site.change);
-            int highest = Math.min(width - 1, straight + site.change);
+        }
+
+        private void fillStates(long[] layer, int level) {
+            int bottom = site.lowestNear(level);
+            int top = site.highestNear(level);
+            int from = NONE;
+            int to = NONE;
+            int latest = NONE;
+            for (int before = bottom; before <= top; before++) {
+                if (!site.slopeFits(level - before)) {
+                    continue;
+                }
+                int at = indexOf(level, before);
+                int straight = level + level - before;
+                int lowest = Math.max(bottom, straight - site.change);
+                int highest = Math.min(top, straight + site.change);
+                // With a wide CHANGE most levels before have the same next ones.
+                if (lowest == from && highest == to) {
+                    System.arraycopy(layer, latest, layer, at, ways);
+                } else {
+                    gather(layer, at, lowest, highest);
+                }
+                from = lowest;
+                to = highest;
+                latest = at;
+            }
+        }
+
+        private void gather(long[] layer, int at, int lowest, int highest) {
             for (int next = lowest; next <= highest; next++) {
                 merge(layer, at, leaving, next * ways, 0L);
             }
@@ -726,9 +762,7 @@ public final class LevelTables {
                 }
                 long before = least[0];
                 fillLeaving(0, level);
-                for (int next = 0; next < width; next++) {
-                    merge(least, 0, leaving, next * ways, 0L);
-                }
+                gather(least, 0, site.lowestNear(level), site.highestNear(level));
                 if (least[0] < before) {
                     startLevel = level;
                 }
@@ -738,7 +772,8 @@ public final class LevelTables {
         private void fillLeaving(int place, int level) {
             Arrays.fill(leaving, NO_WAY);
             int k = spans.startingAt(place);
-            for (int next = 0; next < width; next++) {
+            int highest = site.highestNear(level);
+            for (int next = site.lowestNear(level); next <= highest; next++) {
                 if (site.slopeFits(next - level)) {
                     addStep(place, level, next);
                     addSpan(k, level, next);
@@ -815,7 +850,8 @@ public final class LevelTables {
             int k = spans.startingAt(place);
             long wanted = wantedAt(table, place);
             Arrays.fill(leaving, NO_WAY);
-            for (int next = 0; next < width; next++) {
+            int highest = site.highestNear(level);
+            for (int next = site.lowestNear(level); next <= highest; next++) {
                 if (!mayFollow(table, place, next)) {
                     continue;
                 }

@@ -1,3 +1,5 @@
+import java.lang.reflect.Field;
+import java.util.Arrays;
 import java.util.function.BooleanSupplier;
 import java.util.function.LongSupplier;
 
@@ -518,6 +520,16 @@ public final class Promises {
         due("run()", z.run(), -3);
         z.slopes(2, 2, 0);
         due("run()", z.run(), 0);
+        LevelTables steep = new LevelTables(2, 24);
+        steep.fixed(0, 0);
+        steep.fixed(1, 24);
+        steep.fixed(2, 0);
+        steep.slopes(24, 47, 0);
+        due("run(): slopes of 24 and -24", steep.run(), -3);
+        steep.slopes(24, 48, 0);
+        due("run(): slopes of 24 and -24", steep.run(), 0);
+        steep.slopes(23, 48, 0);
+        due("run(): a slope of 24", steep.run(), -2);
     }
 
     private static void level() {
@@ -981,6 +993,58 @@ public final class Promises {
         x.run();
         no("keeps() where a place is barred", x.keeps());
         yes("keeps() with a span, a move, curves", rich().keeps());
+        keepsLooks();
+    }
+
+    /** No call leaves a table that does not keep, so that other levels are put in from behind. */
+    private static void keepsLooks() {
+        looked(4, 8, 0, true, 0, 0, 0, 0, 1);
+        looked(4, 8, 0, true, 0, 2, 2, 2, 1);
+        // Place 4 is fixed at 1, place 0 moved to 0.
+        looked(4, 8, 0, false, 0, 0, 0, 0, 0);
+        looked(4, 8, 0, false, 1, 0, 0, 0, 1);
+        looked(4, 8, 0, false, 0, -1, -1, -1, 1);
+        // The tunnel from 1 to 3, with a ground of 2 between.
+        looked(4, 8, 0, false, 0, 3, 3, 3, 1);
+        looked(4, 8, 0, false, 0, 1, 1, 2, 1);
+        looked(4, 8, 0, false, 0, 1, 2, 2, 1);
+        // MOST, CHANGE, FALLS, at the first step and at the last one.
+        looked(1, 8, 0, false, 0, 2, 2, 2, 1);
+        looked(1, 8, 0, false, 0, 1, 2, 3, 1);
+        looked(4, 1, 0, false, 0, 2, 2, 2, 1);
+        looked(4, 1, 0, false, 0, 1, 2, 3, 1);
+        looked(4, 8, 1, true, 0, 1, 2, 3, 1);
+        looked(4, 8, 1, false, 0, 0, 1, 2, 1);
+        looked(4, 8, 1, false, 0, 3, 2, 1, 1);
+    }
+
+    private static void looked(int most, int change, int falls, boolean want, int... levels) {
+        LevelTables x = new LevelTables(4, 4);
+        x.slopes(most, change, falls);
+        x.ground(2, 2);
+        x.prices(2, 100, 100);
+        x.fixed(4, 1);
+        x.span(1, 3, 1, 0L);
+        x.run();
+        yes("move(0, 0)", x.move(0, 0));
+        if (falls == 0) {
+            due("told(3)", x.told(3), 1);
+        }
+        putLevels(x, levels);
+        due("keeps() with " + Arrays.toString(levels), x.keeps() ? 1 : 0, want ? 1 : 0);
+    }
+
+    private static void putLevels(LevelTables x, int[] levels) {
+        try {
+            Field table = LevelTables.class.getDeclaredField("table");
+            table.setAccessible(true);
+            Field inside = table.getType().getDeclaredField("levels");
+            inside.setAccessible(true);
+            System.arraycopy(levels, 0, (int[]) inside.get(table.get(x)), 0, levels.length);
+        } catch (ReflectiveOperationException e) {
+            wrong++;
+            System.out.println("promise " + promise + ": the levels inside are not found: " + e);
+        }
     }
 
     private static void whatForgets() {
