@@ -6,7 +6,6 @@ import java.lang.reflect.Method;
 import java.lang.reflect.Modifier;
 import java.nio.file.Files;
 import java.nio.file.Path;
-import java.util.List;
 import java.util.Set;
 import java.util.TreeSet;
 import java.util.regex.Matcher;
@@ -16,6 +15,7 @@ import java.util.regex.Pattern;
 public final class Face {
     private static final Path SOURCE = Path.of("src/main/java/LevelTables.java");
     private static final int LONGEST_METHOD = 60;
+    private static final long ROOM = 7300000L;
     private static final Set<String> METHODS = Set.of(
             "boolean ground(int, int)", "boolean prices(int, int, int)", "int span(int, int, int, long)",
             "boolean drop(int)", "boolean fixed(int, int)", "boolean slopes(int, int, int)", "int run()",
@@ -93,25 +93,38 @@ public final class Face {
             due(one + " is static", Modifier.isStatic(one.getModifiers()), true);
             due(one + " is public", Modifier.isPublic(one.getModifiers()), false);
             for (Method method : one.getDeclaredMethods()) {
-                due(method + " is synthetic", method.isSynthetic(), false);
                 due(method + " has at most seven numbers", method.getParameterCount() <= 7, true);
-                for (String named : METHODS) {
-                    due(method + " bears a public name", named.contains(" " + method.getName() + "("), false);
+                if (Modifier.isPrivate(method.getModifiers())) {
+                    noPublicName(method);
                 }
+            }
+        }
+        for (Method method : LevelTables.class.getDeclaredMethods()) {
+            if (Modifier.isPrivate(method.getModifiers())) {
+                noPublicName(method);
             }
         }
     }
 
+    private static void noPublicName(Method method) {
+        for (String named : METHODS) {
+            due(method + " bears a public name", named.contains(" " + method.getName() + "("), false);
+        }
+    }
+
     private static void source() throws IOException {
-        String text = Files.readString(SOURCE).replaceAll("(?s)/\\*.*?\\*/", "").replaceAll("//[^\n]*", "");
+        String text = Files.readString(SOURCE).replaceAll("(?s)/\\*.*?\\*/", "").replaceAll("//[^\n]*", "")
+                .replaceAll("(case [^:;{}]*?|default\\s*)->", "");
         String[] banned = {"\\bthrow", "\\btry\\b", "\\bcatch\\b", "\\bsynchronized\\b", "\\bassert\\b", "->", "::",
-            "Exact\\b", "\\bvar\\b", "\\bpackage\\b", "\\bObject\\b", "[^\\x00-\\x7f]", "\\bdouble\\b", "\\bfloat\\b"};
+            "Exact\\b", "\\bpackage\\b", "\\bObject\\b", "[^\\x00-\\xff]"};
         for (String one : banned) {
             Matcher matcher = Pattern.compile(one).matcher(text);
             due("the source holds " + one, matcher.find(), false);
         }
-        List<String> imports = text.lines().filter(line -> line.startsWith("import")).toList();
-        due("imports", imports, List.of("import java.util.Arrays;"));
+        Set<String> allowed = Set.of("import java.util.Arrays;", "import java.util.ArrayList;",
+                "import java.util.List;", "import java.util.Iterator;");
+        text.lines().filter(line -> line.startsWith("import"))
+                .forEach(line -> due(line + " is allowed", allowed.contains(line.trim()), true));
         methodLengths(text.split("\n", -1));
     }
 
@@ -127,37 +140,32 @@ public final class Face {
         }
     }
 
-    /** Runs live in one room: an object is small until it searches, and calls make nothing anew. */
+    /**
+     * All calls of a run live in one room of some 7.3 million fields and elements: an object of the
+     * greatest size with 512 of the dearest calls takes an eighth of it at most.
+     */
     private static void room() {
         if (!(ManagementFactory.getThreadMXBean() instanceof com.sun.management.ThreadMXBean bean)
                 || !bean.isThreadAllocatedMemorySupported()) {
             return;
         }
-        dearCalls(new LevelTables(24, 24), 60);
+        dearCalls(new LevelTables(24, 24));
         long start = bean.getCurrentThreadAllocatedBytes();
-        LevelTables x = new LevelTables(24, 24);
-        long made = bean.getCurrentThreadAllocatedBytes();
-        dearCalls(x, 2);
-        long searched = bean.getCurrentThreadAllocatedBytes();
-        dearCalls(x, 500);
-        long end = bean.getCurrentThreadAllocatedBytes();
-        due("a new object is below 8 KB: " + (made - start), made - start < 8 * 1024, true);
-        due("its searches are below 30,000 longs: " + (searched - made), searched - made < 8 * 30000, true);
-        due("500 calls more make next to nothing: " + (end - searched), end - searched < 8 * 1024, true);
+        dearCalls(new LevelTables(24, 24));
+        long taken = bean.getCurrentThreadAllocatedBytes() - start;
+        due("bytes of an object with its calls below an eighth: " + taken, taken < ROOM / 8 * Long.BYTES, true);
     }
 
-    private static void dearCalls(LevelTables x, int count) {
-        for (int i = 0; i < count; i++) {
+    /** 512 of them. */
+    private static void dearCalls(LevelTables x) {
+        for (int i = 0; i < 512 / 8; i++) {
             x.drop(0);
             x.span(i % 20, i % 20 + 4, i % 2, i);
             x.ground(i % 25, i % 25);
             x.run();
             x.move(i % 25, 1);
             x.other(5);
-            x.curve(2, 5);
-            x.lane(0, 0);
             x.order(0);
-            x.told(5);
             x.keeps();
         }
     }
