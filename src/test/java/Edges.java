@@ -358,9 +358,8 @@ public final class Edges {
         // 80 50 40 50 55 60
         x.told("fixed(4, 3)", "fixed(5, 3)", "run()").due("lane(0, 0)", 2).due("lane(0, 1)", 2);
         x.due("lane(0, 2)", 40).due("lane(1, 0)", NONE);
-        // 80 40 45 50 55 60
-        Road y = new Road(5, 20).told("slopes(4, 8, 0)", "fixed(0, 0)", "fixed(1, 4)", "fixed(2, 4)", "fixed(3, 4)");
-        y.told("fixed(4, 4)", "fixed(5, 4)", "run()").due("lane(0, 0)", 1).due("lane(0, 1)", 2).due("lane(0, 2)", 40);
+        // 80 20 25 30 35 40 45 50 55
+        lane(road(0, 6, 6, 6, 6, 6, 6, 6, 6).made(), 0, 1, 6, 20).due("lane(1, 0)", NONE);
         sentence = "Terms: There is a table at hand behind run() or move()";
         new Road(3, 3).noTable().row("told", 0, 0, 0).due("move(0, 0)", 0).due("run()", 0).due("keeps()", 1);
     }
@@ -518,6 +517,10 @@ public final class Edges {
         three.made().due("drop(1)", 1).due("run()", 2).due("cost()", 14).due("drop(1)", 1).due("run()", 1)
                 .due("told(3)", 1).due("cost()", 19).due("drop(1)", 0).due("drop(0)", 1).due("drop(0)", 0);
         three.made().due("drop(2)", 1).due("run()", 2).due("told(3)", 3).due("cost()", 12).due("drop(2)", 0);
+        // What was told of a span goes with it: a bridge is of no use, a tunnel is.
+        three.and("drop(1)", "span(0, 2, 0, 2)").made().due("run()", 2).due("told(3)", 3).due("drop(0)", 1)
+                .due("run()", 1).due("told(3)", 1).due("drop(0)", 1).due("run()", 0).due("cost()", 27)
+                .due("ground(1, 0)", 1).due("fixed(1, 1)", 1).due("prices(1, 9, 9)", 1).due("run()", 1);
         // A bridge over the last hill is of no use: bits 0 and 2 are left.
         three.and("drop(1)", "drop(0)", "span(4, 6, 0, 0)").made().due("run()", 1).due("told(3)", 1)
                 .due("span(0, 2, 1, 2)", 2).due("run()", 2).due("told(3)", 5);
@@ -665,6 +668,8 @@ public final class Edges {
             refused(BARRED, "other(" + k + ")", NONE);
         }
         few.and("run()").made().due("other(1)", 1).due("fixed(2, 0)", 1).due("other(0)", NONE).due("other(1)", NONE);
+        few.and("run()").made().due("other(1)", 1).due("prices(0, 1, 7)", 1).due("run()", 0).due("other(1)", 7)
+                .due("move(0, 2)", 1).due("other(0)", 14).due("other(1)", NONE).due("move(0, -1)", 1).due("other(5)", 35);
         sentence = "Promise 11: each once";
         few.and("prices(0, 1, 0)", "run()").made().row("other", 0, NONE);
         few.and("ground(0, 4)", "run()").made().row("other", 0, 1, 2, 3, 4, 5);
@@ -1096,6 +1101,7 @@ public final class Edges {
         sentence = "Promise 19: 5 levels that are cut, 6 filled (between the ends of a span that is used: none)";
         Site some = road(2, 2, 2, 2, 2, 2).and("ground(1, 4)", "ground(2, 2)", "ground(3, 3)", "ground(5, 1)", "run()");
         some.made().row("told", 0, 6, 0, 0, 0, 3, 5, 0);
+        some.and("ground(0, 5)", "ground(5, 9)", "run()").made().row("told", 0, 6, 0, 0, 0, 3 + 3 + 7, 2, 0);
         some.and("span(0, 2, 1, 1)", "run()").made().row("told", 1, 6, 0, 1, 0, 1, 5, 0);
         some.and("span(3, 5, 0, 1)", "run()").made().row("told", 1, 6, 0, 1, 0, 3, 3, 0);
         some.and("span(3, 5, 0, 2)", "span(0, 2, 1, 0)", "run()").made().row("told", 2, 6, 0, 2, 0, 1, 5, 0);
