@@ -617,6 +617,9 @@ public final class Edges {
         sentence = "Terms: levels for the places 0 .. p that keep as far as these go";
         // 0, 2, 4, 6 keep so far, and 8 is not there: place 4 is barred, though place 3 leads nowhere.
         new Road(4, 7).told("fixed(0, 0)", "slopes(2, 0, 2)").due("run()", -5).noTable();
+        // The steepest first step keeps so far, down and up, and no second one is like it.
+        new Road(2, 24).told("fixed(0, 24)", "slopes(24, 0, 24)").due("run()", -3).noTable();
+        new Road(2, 24).told("fixed(0, 0)", "slopes(24, 0, 24)").due("run()", -3).noTable();
         sentence = "Promise 8: (then there is none at hand)";
         BARRED.made().noTable().due("move(0, -1)", 0).due("curve(1, 0)", NONE).due("lane(0, 0)", NONE)
                 .due("curveAt(1, 0)", NONE).due("told(2)", 1).due("told(1)", 2).due("told(0)", 3)
@@ -1093,7 +1096,8 @@ public final class Edges {
         for (int p = 0; p <= 24; p++) {
             x.due("fixed(" + p + ", " + p % 2 * 24 + ")", 1).due("told(1)", p + 1);
         }
-        x.due("run()", 0).due("told(4)", 24 * 24).due("told(6)", 12 * 24).due("told(5)", 0);
+        x.due("run()", 0).due("told(4)", 24 * 24).due("told(6)", 12 * 24).due("told(5)", 0)
+                .due("cost()", 12 * 24).due("other(0)", 12 * 24).due("other(1)", NONE);
         for (int p = 0; p <= 24; p++) {
             x.due("move(" + p + ", " + p % 2 * 24 + ")", 1).due("told(2)", p + 1);
         }
