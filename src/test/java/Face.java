@@ -74,10 +74,12 @@ public final class Face {
         Constructor<?>[] constructors = LevelTables.class.getDeclaredConstructors();
         due("constructors", constructors.length, 1);
         due("its numbers", text(constructors[0].getParameterTypes()), "int, int");
+        due("its modifiers", Modifier.toString(constructors[0].getModifiers()), "public");
         Set<String> shown = new TreeSet<>();
         for (Field field : LevelTables.class.getDeclaredFields()) {
             if (!Modifier.isPrivate(field.getModifiers())) {
                 shown.add(field.getName());
+                due(field + " is shown", field.toString().startsWith("public static final int "), true);
             }
             if (Modifier.isStatic(field.getModifiers())) {
                 due(field.getName() + " is final", Modifier.isFinal(field.getModifiers()), true);
